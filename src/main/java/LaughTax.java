@@ -78,8 +78,8 @@ public final class LaughTax {
             case 2: return live.taste[person];
             case 3: return live.mood[person];
             case 4: return live.purse[person];
-            case 5: return telling.boundOf(live, person);
-            case 6: return telling.numberOf(live, person);
+            case 5: return Kinds.bound(live.kind[person], live.purse[person]);
+            case 6: return Kinds.number(live.kind[person], live.mood[person]);
             case 7: return Integer.bitCount(live.near[person]);
             default: return found(BEYOND);
         }
@@ -136,8 +136,8 @@ public final class LaughTax {
         int strength = live.strengthFor(person, live.topics[joke], live.fun[joke]);
         switch (what) {
             case 0: return strength;
-            case 1: return telling.secondsOf(live, person, strength);
-            case 2: return telling.dueOf(live, person, strength);
+            case 1: return Kinds.seconds(live.kind[person], strength);
+            case 2: return live.dueFrom(person, strength);
             default: return found(BEYOND);
         }
     }
@@ -558,7 +558,7 @@ public final class LaughTax {
         if (!hasPerson(held)) {
             return found(MISSING);
         }
-        return telling.kindOf(live, held).isA(kind) ? held : found(KIND);
+        return Kinds.isA(live.kind[held], kind) ? held : found(KIND);
     }
 
     public int sheet(int s, int bits, int n) {
@@ -813,123 +813,75 @@ public final class LaughTax {
         return product;
     }
 
-    // ---- kinds: each says only in what it differs from the one it is under
+    // ---- what the calls are played with
 
-    private static class Hearer {
-        boolean isA(int kind) {
-            return kind == 0;
+    /** What the KINDS differ in. */
+    private static final class Kinds {
+        private static final int HEARER = 0;
+        private static final int STRAIGHT = 1;
+        private static final int GIGGLER = 2;
+        private static final int AUNT = 3;
+        private static final int FOOL = 4;
+        private static final int CHILD = 5;
+        private static final int INSPECTOR = 6;
+        private static final int NOTHING = -1;
+        /** By KINDS: the one that each is under. */
+        private static final int[] ABOVE = {NOTHING, HEARER, HEARER, GIGGLER, AUNT, HEARER, STRAIGHT};
+
+        private static final int HEARER_BOUND = 8;
+        private static final int GIGGLER_BOUND = HEARER_BOUND / 2;
+        private static final int AUNT_BOUND = GIGGLER_BOUND - 1;
+        private static final int MOST_OF_PURSE = 20;
+        private static final int HEARER_NUMBER = 2;
+        private static final int STRAIGHT_NUMBER = 3;
+        private static final int MERRY_CHILD = 5;
+
+        static boolean isA(int kind, int wanted) {
+            int above = kind;
+            for (int i = 0; i < KINDS && above != NOTHING; i++) {
+                if (above == wanted) {
+                    return true;
+                }
+                above = ABOVE[above];
+            }
+            return false;
         }
 
-        int bound(int purse) {
-            return 8;
+        static int bound(int kind, int purse) {
+            int straight = HEARER_BOUND + Math.min(MOST_OF_PURSE, purse / 10);
+            switch (kind) {
+                case STRAIGHT: return straight;
+                case INSPECTOR: return straight + 4;
+                case GIGGLER: return GIGGLER_BOUND;
+                case AUNT: return AUNT_BOUND;
+                case FOOL: return AUNT_BOUND + 90;
+                case CHILD: return HEARER_BOUND - 3;
+                default: return HEARER_BOUND;
+            }
         }
 
-        int number(int mood) {
-            return 2;
+        static int number(int kind, int mood) {
+            switch (kind) {
+                case STRAIGHT: return STRAIGHT_NUMBER;
+                case INSPECTOR: return STRAIGHT_NUMBER * 2;
+                case GIGGLER: return 1;
+                case AUNT: return 1;
+                case FOOL: return 9;
+                case CHILD: return mood >= MERRY_CHILD ? HEARER_NUMBER - 1 : HEARER_NUMBER;
+                default: return HEARER_NUMBER;
+            }
         }
 
-        int seconds(int strength) {
-            return Math.min(30, Math.max(1, strength));
-        }
-    }
-
-    private static class Straight extends Hearer {
-        boolean isA(int kind) {
-            return kind == 1 || super.isA(kind);
-        }
-
-        int bound(int purse) {
-            return super.bound(purse) + Math.min(20, purse / 10);
-        }
-
-        int number(int mood) {
-            return 3;
-        }
-
-        int seconds(int strength) {
-            return super.seconds(strength) / 2 + 1;
-        }
-    }
-
-    private static final class Inspector extends Straight {
-        boolean isA(int kind) {
-            return kind == 6 || super.isA(kind);
-        }
-
-        int bound(int purse) {
-            return super.bound(purse) + 4;
-        }
-
-        int number(int mood) {
-            return super.number(mood) * 2;
-        }
-
-        int seconds(int strength) {
-            return 1;
-        }
-    }
-
-    private static class Giggler extends Hearer {
-        boolean isA(int kind) {
-            return kind == 2 || super.isA(kind);
-        }
-
-        int bound(int purse) {
-            return super.bound(purse) / 2;
-        }
-
-        int number(int mood) {
-            return 1;
-        }
-
-        int seconds(int strength) {
-            return super.seconds(strength) * 2;
-        }
-    }
-
-    private static class Aunt extends Giggler {
-        boolean isA(int kind) {
-            return kind == 3 || super.isA(kind);
-        }
-
-        int bound(int purse) {
-            return super.bound(purse) - 1;
-        }
-
-        int seconds(int strength) {
-            return super.seconds(strength) + 5;
-        }
-    }
-
-    private static final class Fool extends Aunt {
-        boolean isA(int kind) {
-            return kind == 4 || super.isA(kind);
-        }
-
-        int bound(int purse) {
-            return super.bound(purse) + 90;
-        }
-
-        int number(int mood) {
-            return 9;
-        }
-
-        int seconds(int strength) {
-            return 0;
-        }
-    }
-
-    private static final class Child extends Hearer {
-        boolean isA(int kind) {
-            return kind == 5 || super.isA(kind);
-        }
-
-        int bound(int purse) {
-            return super.bound(purse) - 3;
-        }
-
-        int number(int mood) {
-            return mood >= 5 ? super.number(mood) - 1 : super.number(mood);
+        static int seconds(int kind, int strength) {
+            int hearer = Math.min(30, Math.max(1, strength));
+            switch (kind) {
+                case STRAIGHT: return hearer / 2 + 1;
+                case INSPECTOR: return 1;
+                case GIGGLER: return hearer * 2;
+                case AUNT: return hearer * 2 + 5;
+                case FOOL: return 0;
+                default: return hearer;
+            }
         }
     }
 
@@ -1032,6 +984,10 @@ public final class LaughTax {
             return ofFun * Integer.bitCount(ofTopics & taste[person]) + mood[person];
         }
 
+        int dueFrom(int person, int strength) {
+            return Kinds.seconds(kind[person], strength) * rate * Integer.bitCount(near[person]) / 10;
+        }
+
         int together(int[] row) {
             int sum = 0;
             for (int p = 0; p < people; p++) {
@@ -1069,47 +1025,16 @@ public final class LaughTax {
 
     /** A JOKE that is TOLD in a room; what came of the latest one stays here to be looked at. */
     private static final class Telling {
-        private final Hearer[] kinds = new Hearer[KINDS];
         /** 0: by itself; else the round of catching; of those that didn't LAUGH it says nothing. */
         private final int[] roundOf = new int[PEOPLE];
         private final int[] paid = new int[PEOPLE];
         private int lastRound;
 
-        Telling() {
-            kinds[0] = new Hearer();
-            kinds[1] = new Straight();
-            kinds[2] = new Giggler();
-            kinds[3] = new Aunt();
-            kinds[4] = new Fool();
-            kinds[5] = new Child();
-            kinds[6] = new Inspector();
-        }
-
-        Hearer kindOf(Room room, int person) {
-            return kinds[room.kind[person]];
-        }
-
-        int boundOf(Room room, int person) {
-            return kindOf(room, person).bound(room.purse[person]);
-        }
-
-        int numberOf(Room room, int person) {
-            return kindOf(room, person).number(room.mood[person]);
-        }
-
-        int secondsOf(Room room, int person, int strength) {
-            return kindOf(room, person).seconds(strength);
-        }
-
-        int dueOf(Room room, int person, int strength) {
-            return secondsOf(room, person, strength) * room.rate * Integer.bitCount(room.near[person]) / 10;
-        }
-
         /** Who LAUGHS by itself. */
         int startersOf(Room room, int topics, int fun) {
             int set = 0;
             for (int p = 0; p < room.people; p++) {
-                if (room.strengthFor(p, topics, fun) >= boundOf(room, p)) {
+                if (room.strengthFor(p, topics, fun) >= Kinds.bound(room.kind[p], room.purse[p])) {
                     set |= 1 << p;
                 }
             }
@@ -1141,7 +1066,8 @@ public final class LaughTax {
         private int catchersFrom(Room room, int laughing, int others) {
             int catching = 0;
             for (int p = 0; p < room.people; p++) {
-                if (isIn(others, p) && Integer.bitCount(room.near[p] & laughing) >= numberOf(room, p)) {
+                int heard = Integer.bitCount(room.near[p] & laughing);
+                if (isIn(others, p) && heard >= Kinds.number(room.kind[p], room.mood[p])) {
                     catching |= 1 << p;
                 }
             }
@@ -1161,7 +1087,7 @@ public final class LaughTax {
             int laughed = laughersOf(room, joke);
             for (int p = 0; p < room.people; p++) {
                 int strength = room.strengthFor(p, room.topics[joke], room.fun[joke]);
-                paid[p] = isIn(laughed, p) ? collect(room, p, dueOf(room, p, strength)) : 0;
+                paid[p] = isIn(laughed, p) ? collect(room, p, room.dueFrom(p, strength)) : 0;
             }
             for (int p = 0; p < room.people; p++) {
                 int step = isIn(laughed, p) ? 1 : -1;
@@ -1242,8 +1168,6 @@ public final class LaughTax {
         private static final int SIGN = 3;
         private static final int OTHER = 4;
         private static final int TOO_GREAT = 10000;
-        private static final int ABSENT = -1;
-        private static final int FAULT = -2;
 
         private final byte[] bytes = new byte[TAPE_LENGTH];
         private int length;
@@ -1252,6 +1176,8 @@ public final class LaughTax {
         private int start;
         private int behind;
         private int value;
+        /** The NUMBER that was read latest, or what stands for it where it isn't told. */
+        private int taken;
 
         /** Only while there are fewer than TAPE_LENGTH. */
         void put(byte b) {
@@ -1299,22 +1225,23 @@ public final class LaughTax {
             }
             step();
             int person = room.addPerson(kind, 0);
-            int seat = readPart("on", LAST_SEAT);
-            if (seat >= 0) {
-                room.setSeat(person, seat);
+            if (!readPart("on", LAST_SEAT, room.seat[person])) {
+                return false;
             }
-            return seat != FAULT
-                    && readPartOf(room.taste, person, "taste", ALL_TOPICS)
-                    && readPartOf(room.mood, person, "mood", MOST_MOOD)
-                    && readPartOf(room.purse, person, "purse", MOST_PURSE);
-        }
-
-        private boolean readPartOf(int[] row, int person, String word, int most) {
-            int part = readPart(word, most);
-            if (part >= 0) {
-                row[person] = part;
+            room.setSeat(person, taken);
+            if (!readPart("taste", ALL_TOPICS, room.taste[person])) {
+                return false;
             }
-            return part != FAULT;
+            room.taste[person] = taken;
+            if (!readPart("mood", MOST_MOOD, room.mood[person])) {
+                return false;
+            }
+            room.mood[person] = taken;
+            if (!readPart("purse", MOST_PURSE, room.purse[person])) {
+                return false;
+            }
+            room.purse[person] = taken;
+            return true;
         }
 
         private boolean readJoke(Room room) {
@@ -1322,52 +1249,52 @@ public final class LaughTax {
                 return false;
             }
             step();
-            int topics = readNumber(1, ALL_TOPICS);
-            if (topics == FAULT) {
+            if (!readNumber(1, ALL_TOPICS)) {
                 return false;
             }
-            int fun = readNumber(0, MOST_FUN);
-            if (fun == FAULT) {
+            int topics = taken;
+            if (!readNumber(0, MOST_FUN)) {
                 return false;
             }
-            room.addJoke(topics, fun);
+            room.addJoke(topics, taken);
             return true;
         }
 
         private boolean readRate(Room room) {
-            int rate = readPart("rate", MOST_RATE);
-            if (rate < 0) {
+            step();
+            if (!readNumber(0, MOST_RATE)) {
                 return false;
             }
-            room.rate = rate;
+            room.rate = taken;
             return true;
         }
 
         private boolean readReach(Room room) {
-            int reach = readPart("reach", MOST_REACH);
-            if (reach < 0) {
+            step();
+            if (!readNumber(0, MOST_REACH)) {
                 return false;
             }
-            room.setReach(reach);
+            room.setReach(taken);
             return true;
         }
 
-        /** The NUMBER behind a WORD, ABSENT if the WORD doesn't stand here, or FAULT. */
-        private int readPart(String word, int most) {
+        /** Takes the NUMBER behind a WORD, or what is so without them; false with a FAULT. */
+        private boolean readPart(String word, int most, int without) {
             if (!isWord(word)) {
-                return ABSENT;
+                taken = without;
+                return true;
             }
             step();
             return readNumber(0, most);
         }
 
-        private int readNumber(int least, int most) {
+        private boolean readNumber(int least, int most) {
             if (token != NUMBER || !within(value, least, most)) {
-                return FAULT;
+                return false;
             }
-            int number = value;
+            taken = value;
             step();
-            return number;
+            return true;
         }
 
         private boolean isWord(String word) {
@@ -1399,41 +1326,26 @@ public final class LaughTax {
             while (start < length && bytes[start] == ' ') {
                 start++;
             }
+            token = start < length ? tokenOf(bytes[start]) : END;
             behind = start;
-            if (start >= length) {
-                token = END;
-            } else if (isLetter(bytes[start])) {
-                token = WORD;
-                stepLetters();
-            } else if (isDigit(bytes[start])) {
-                token = NUMBER;
-                stepDigits();
-            } else {
-                token = bytes[start] == ';' ? SIGN : OTHER;
-                behind++;
-            }
-        }
-
-        private void stepLetters() {
-            while (behind < length && isLetter(bytes[behind])) {
-                behind++;
-            }
-        }
-
-        private void stepDigits() {
             value = 0;
-            while (behind < length && isDigit(bytes[behind])) {
-                value = Math.min(TOO_GREAT, value * 10 + (bytes[behind] - '0'));
+            int longest = token == WORD || token == NUMBER ? length : Math.min(length, start + 1);
+            while (behind < longest && tokenOf(bytes[behind]) == token) {
+                if (token == NUMBER) {
+                    value = Math.min(TOO_GREAT, value * 10 + (bytes[behind] - '0'));
+                }
                 behind++;
             }
         }
 
-        private static boolean isLetter(byte b) {
-            return b >= 'a' && b <= 'z';
-        }
-
-        private static boolean isDigit(byte b) {
-            return b >= '0' && b <= '9';
+        private static int tokenOf(byte b) {
+            if (b >= 'a' && b <= 'z') {
+                return WORD;
+            }
+            if (b >= '0' && b <= '9') {
+                return NUMBER;
+            }
+            return b == ';' ? SIGN : OTHER;
         }
     }
 }

@@ -383,7 +383,8 @@ public final class PromisesTest {
         due("above 99999", far.evening(0, 40), STATE);
         due("below 99999", far.evening(0, 20), 0);
         due("shows above 99999", far.shows(20), STATE);
-        due("up to 99999", far.evening(0, 19), 0);
+        due("shows up to 99998", far.shows(18), 0);
+        due("up to 99999", far.tell(0), 0);
         due("told", far.now(0), 99999);
         due("one more", far.tell(0), STATE);
         due("told still", far.now(0), 99999);
@@ -617,6 +618,14 @@ public final class PromisesTest {
         due("nothing changes", x.of(0, 1) * 100 + x.of(1, 1) * 10 + x.of(3, 1), 26);
         due("near as it was", x.of(0, 7), 1);
         due("least of several", room("fool on 5;joke 1 1").seatFor(0, 0), 0);
+        due("the last seat", room("giggler taste 2 mood 0;giggler mood 0;joke 2 9;reach 14").seatFor(0, 0), 15);
+        LaughTax eight = aunts();
+        for (int p = 0; p < 8; p++) {
+            eight.change(p, 1, 0);
+        }
+        eight.change(4, 2, 0);
+        eight.change(4, 3, 0);
+        due("seven of eight", eight.seatFor(4, 0), 3);
         due("nobody", x.seatFor(4, 0), BEYOND);
         due("person below", x.seatFor(-1, 0), BEYOND);
         due("no such joke", x.seatFor(0, 1), BEYOND);
@@ -688,6 +697,7 @@ public final class PromisesTest {
         due("fun 10", x.best(10), BEYOND);
         due("fun -1", x.best(-1), BEYOND);
         due("nobody", new LaughTax().best(9), 1);
+        due("only all topics do", room("hearer taste 63 mood 2").best(1), 63);
     }
 
     private static void quiet() {
@@ -700,6 +710,8 @@ public final class PromisesTest {
         due("fun 10", x.quiet(10), BEYOND);
         due("fun -1", x.quiet(-1), BEYOND);
         due("nobody", new LaughTax().quiet(9), NONE);
+        due("only all topics do", room("hearer taste 63 mood 2").quiet(1), 63);
+        due("all eight laugh always", aunts().quiet(0), 1);
     }
 
     private static void safe() {
@@ -772,6 +784,9 @@ public final class PromisesTest {
         due("none of them", x.taste(0, 0, 0), 0);
         sheetOf(x, 0, 8, 1);
         due("with no taste", x.taste(0, 0, 0), NONE);
+        x.joke(63, 1);
+        sheetOf(x, 0, 8, 9);
+        due("with all topics only", x.taste(0, 0, 2), 63);
     }
 
     private static void which() {
@@ -944,7 +959,27 @@ public final class PromisesTest {
         due("rate is as it was", x.now(4), 20);
         due("rate again", read(x, "rate 3;rate 7;rate 5"), 3);
         due("the last counts", x.now(4), 5);
+        due("rate 0", read(x, "rate 0"), 1);
+        due("rate is 0", x.now(4), 0);
         due("near is new", room("hearer;hearer on 2;reach 1").of(0, 7), 0);
+        LaughTax y = new LaughTax();
+        y.person(2, 5);
+        due("beside one that is there", read(y, "aunt on 6"), 1);
+        due("both", y.of(0, 0) * 10 + y.of(1, 0), 23);
+        due("what the tape held is no part of it", read(y, "rate"), -5);
+        for (int i = 0; i < 30; i++) {
+            y.feed(0x20202020, 4);
+        }
+        due("a full tape of blanks", y.text(), -121);
+        for (int i = 0; i < 29; i++) {
+            y.feed(0x20202020, 4);
+        }
+        y.feed(0x72617465, 4);
+        due("a full tape that ends with a word", y.text(), -121);
+        for (int i = 0; i < 30; i++) {
+            y.feed(0x30303030, 4);
+        }
+        due("a full tape of digits", y.text(), -1);
         faults();
     }
 
@@ -972,6 +1007,13 @@ public final class PromisesTest {
         fault("rate 3\n", 6);
         fault("rate 3" + (char) 0, 6);
         fault("rate 3" + (char) 233, 6);
+        fault("rate 3/", 6);
+        fault("rate 3:", 6);
+        fault("aunt`", 4);
+        fault("aunt{", 4);
+        fault("auntz", 0);
+        fault("bunt", 0);
+        fault("aunx", 0);
         fault("rates 3", 0);
         fault("rat 3", 0);
         fault("ratereach 3", 0);
@@ -1107,6 +1149,8 @@ public final class PromisesTest {
         LaughTax x = room("hearer;hearer;hearer;hearer;hearer");
         due("sheet 4", x.copy(4, 0, 0, 0, 0), BEYOND);
         due("sheet -1", x.copy(0, 0, -1, 0, 0), BEYOND);
+        due("to sheet 4", x.copy(0, 0, 4, 0, 0), BEYOND);
+        due("sheet -1", x.copy(-1, 0, 0, 0, 0), BEYOND);
         due("missing", x.copy(0, -1, 1, 0, 0), MISSING);
         sheetOf(x, 0, 8, 1, 2, 3, 4, 5);
         due("the other is missing", x.copy(0, 0, 1, 0, 0), MISSING);
@@ -1129,6 +1173,9 @@ public final class PromisesTest {
         seats(x, 0, 1, 1, 2, 3, 4);
         due("down in itself", x.copy(0, 1, 0, 0, 4), 4);
         seats(x, 0, 1, 2, 3, 4, 4);
+        x.sheet(3, 8, 5);
+        due("all of it", x.copy(0, 0, 3, 0, 5), 5);
+        seats(x, 3, 1, 2, 3, 4, 4);
     }
 
     private static void load() {
@@ -1144,6 +1191,9 @@ public final class PromisesTest {
         due("16 is no seat", x.load(0), 1);
         due("seats", x.of(0, 1) * 10000 + x.of(1, 1) * 100 + x.of(2, 1), 11500);
         due("near is new again", x.of(0, 7), 1);
+        sheetOf(x, 0, 8, 4);
+        due("fewer numbers than people", x.load(0), 1);
+        due("the next is where it was", x.of(1, 1), 15);
         sheetOf(x, 0, 8, -1);
         due("-1 is no seat", x.load(0), 0);
         x.sheet(0, 8, 0);
@@ -1157,6 +1207,16 @@ public final class PromisesTest {
         due("missing", x.judge(0), MISSING);
         sheetOf(x, 0, 8, 0, 1, 2, 3);
         due("in their order", x.judge(0), 0);
+        x.change(3, 2, 2);
+        sheetOf(x, 0, 8, 3, 0);
+        due("both by themselves now", x.judge(0), 0);
+        x.change(3, 2, 1);
+        x.change(0, 2, 1);
+        x.change(1, 2, 2);
+        sheetOf(x, 0, 8, 0, 1);
+        due("1 by itself, 0 behind it", x.judge(0), 2);
+        x.change(0, 2, 2);
+        x.change(1, 2, 1);
         sheetOf(x, 0, 8, 1, 3);
         due("not all of them", x.judge(0), 0);
         sheetOf(x, 0, 8, 0, 2, 1);
