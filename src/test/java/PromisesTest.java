@@ -383,8 +383,13 @@ public final class PromisesTest {
         due("above 99999", far.evening(0, 40), STATE);
         due("below 99999", far.evening(0, 20), 0);
         due("shows above 99999", far.shows(20), STATE);
-        due("shows up to 99998", far.shows(18), 0);
-        due("up to 99999", far.tell(0), 0);
+        far.image();
+        due("evening up to 99999", far.evening(0, 19), 0);
+        due("back to 99980", far.undo(), 99980);
+        due("shows up to 99999", far.shows(19), 0);
+        due("back again", far.undo(), 99980);
+        due("up to 99998", far.evening(0, 18), 0);
+        due("tell up to 99999", far.tell(0), 0);
         due("told", far.now(0), 99999);
         due("one more", far.tell(0), STATE);
         due("told still", far.now(0), 99999);
@@ -1176,6 +1181,9 @@ public final class PromisesTest {
         x.sheet(3, 8, 5);
         due("all of it", x.copy(0, 0, 3, 0, 5), 5);
         seats(x, 3, 1, 2, 3, 4, 4);
+        x.sheet(2, 8, 5);
+        due("from the last", x.copy(3, 2, 2, 0, 3), 3);
+        seats(x, 2, 3, 4, 4, 0, 0);
     }
 
     private static void load() {
