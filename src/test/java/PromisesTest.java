@@ -77,64 +77,6 @@ public final class PromisesTest {
         }
     }
 
-    // ---- rooms that several promises are looked at in
-
-    /** ITEMS are read one by one, as together they may be longer than THE TAPE. */
-    private static LaughTax room(String text) {
-        LaughTax x = new LaughTax();
-        for (String item : text.split(";")) {
-            due("'" + item + "' of a room", read(x, item), 1);
-        }
-        return x;
-    }
-
-    private static int read(LaughTax x, String text) {
-        put(x, text);
-        return x.text();
-    }
-
-    private static void put(LaughTax x, String text) {
-        for (int i = 0; i < text.length(); i++) {
-            x.feed(text.charAt(i), 1);
-        }
-    }
-
-    private static void sheetOf(LaughTax x, int s, int bits, int... numbers) {
-        x.sheet(s, bits, numbers.length);
-        for (int i = 0; i < numbers.length; i++) {
-            x.write(s, i, numbers[i]);
-        }
-    }
-
-    /** Gigglers on 0, 2, 4, 6: only the first likes the JOKE, the others catch it one by one. */
-    private static LaughTax chain() {
-        return room("giggler taste 2 mood 0;giggler on 2 mood 0;giggler on 4 mood 0;giggler on 6 mood 0;joke 2 9");
-    }
-
-    /** Eight aunts on one SEAT, who like all and owe 910 each. */
-    private static LaughTax aunts() {
-        LaughTax x = new LaughTax();
-        for (int p = 0; p < 8; p++) {
-            x.person(3, 7);
-            x.change(p, 2, 63);
-        }
-        x.joke(63, 9);
-        x.law(0, 20);
-        return x;
-    }
-
-    /** THE TREASURY is full, and eight aunts are left with some PURSE. */
-    private static LaughTax fullTreasury() {
-        LaughTax x = aunts();
-        for (int i = 0; i < 13; i++) {
-            for (int p = 0; p < 8; p++) {
-                x.change(p, 4, 9999);
-            }
-            x.evening(0, 60);
-        }
-        return x;
-    }
-
     // ---- people, jokes
 
     private static void newObject() {
@@ -178,7 +120,7 @@ public final class PromisesTest {
     }
 
     private static void of() {
-        LaughTax x = room("hearer;straight;giggler;aunt;fool;child;inspector;hearer on 4");
+        LaughTax x = Rooms.room("hearer;straight;giggler;aunt;fool;child;inspector;hearer on 4");
         int[] bounds = {8, 18, 4, 3, 93, 5, 22, 8};
         int[] numbers = {2, 3, 1, 1, 9, 2, 6, 2};
         for (int p = 0; p < 8; p++) {
@@ -209,7 +151,7 @@ public final class PromisesTest {
     }
 
     private static void change() {
-        LaughTax x = room("hearer on 5;hearer on 6");
+        LaughTax x = Rooms.room("hearer on 5;hearer on 6");
         int[] most = {6, 15, 63, 9, 9999};
         int[] first = {0, 5, 1, 3, 100};
         for (int what = 0; what < 5; what++) {
@@ -246,7 +188,7 @@ public final class PromisesTest {
     }
 
     private static void jokeOf() {
-        LaughTax x = room("joke 63 9;joke 1 0");
+        LaughTax x = Rooms.room("joke 63 9;joke 1 0");
         due("topics", x.jokeOf(0, 0), 63);
         due("fun", x.jokeOf(0, 1), 9);
         due("topics", x.jokeOf(1, 0), 1);
@@ -259,7 +201,7 @@ public final class PromisesTest {
     }
 
     private static void law() {
-        LaughTax x = room("hearer;hearer on 3");
+        LaughTax x = Rooms.room("hearer;hearer on 3");
         due("rate", x.law(0, 20), 1);
         due("rate back", x.law(0, 0), 20);
         due("rate is", x.now(4), 0);
@@ -278,7 +220,7 @@ public final class PromisesTest {
     }
 
     private static void strength() {
-        LaughTax x = room("hearer taste 7 mood 2;straight taste 7;giggler taste 7;aunt taste 7;fool taste 7;"
+        LaughTax x = Rooms.room("hearer taste 7 mood 2;straight taste 7;giggler taste 7;aunt taste 7;fool taste 7;"
                 + "child taste 7;joke 11 5;joke 63 9;joke 8 9");
         x.person(6, 0);
         x.change(6, 2, 7);
@@ -318,7 +260,7 @@ public final class PromisesTest {
     // ---- jokes told
 
     private static void tell() {
-        LaughTax x = room("hearer taste 2 mood 9;giggler on 1 mood 0 purse 1;hearer on 9 mood 0;joke 2 9;rate 10");
+        LaughTax x = Rooms.room("hearer taste 2 mood 9;giggler on 1 mood 0 purse 1;hearer on 9 mood 0;joke 2 9;rate 10");
         due("who", x.tell(0), 3);
         due("told", x.now(0), 1);
         // 18 seconds * 10 * 1 / 10; the giggler owes 2, and has 1
@@ -336,7 +278,7 @@ public final class PromisesTest {
         due("below", x.tell(-1), BEYOND);
         due("told still", x.now(0), 2);
 
-        LaughTax full = fullTreasury();
+        LaughTax full = Rooms.fullTreasury();
         due("treasury full", full.now(1), 999999);
         due("all laugh", full.tell(0), 255);
         due("treasury full still", full.now(1), 999999);
@@ -345,7 +287,7 @@ public final class PromisesTest {
         due("purses as they were", full.now(2), before);
 
         // what a full treasury takes comes by numbers
-        LaughTax by = fullTreasury();
+        LaughTax by = Rooms.fullTreasury();
         for (int p = 0; p < 8; p++) {
             by.change(p, 4, p == 7 ? 0 : 9999);
         }
@@ -357,8 +299,8 @@ public final class PromisesTest {
     }
 
     private static void evening() {
-        LaughTax x = room("hearer taste 2 mood 9;giggler on 1 mood 0;joke 2 1;rate 10");
-        LaughTax y = room("hearer taste 2 mood 9;giggler on 1 mood 0;joke 2 1;rate 10");
+        LaughTax x = Rooms.room("hearer taste 2 mood 9;giggler on 1 mood 0;joke 2 1;rate 10");
+        LaughTax y = Rooms.room("hearer taste 2 mood 9;giggler on 1 mood 0;joke 2 1;rate 10");
         for (int i = 0; i < 5; i++) {
             y.tell(0);
         }
@@ -376,7 +318,7 @@ public final class PromisesTest {
         due("told", x.now(0), 66);
 
         // 99999 is beyond 512 calls, so nothing is promised there; the act refuses it all the same
-        LaughTax far = room("joke 1 1");
+        LaughTax far = Rooms.room("joke 1 1");
         for (int i = 0; i < 1666; i++) {
             far.evening(0, 60);
         }
@@ -396,7 +338,7 @@ public final class PromisesTest {
     }
 
     private static void now() {
-        LaughTax x = room("hearer taste 2 mood 9 purse 50;giggler on 1 mood 0 purse 7;joke 2 9;rate 10;reach 4");
+        LaughTax x = Rooms.room("hearer taste 2 mood 9 purse 50;giggler on 1 mood 0 purse 7;joke 2 9;rate 10;reach 4");
         x.tell(0);
         int[] want = {1, 20, 37, 10, 10, 4};
         for (int what = 0; what < 6; what++) {
@@ -411,7 +353,7 @@ public final class PromisesTest {
         due("n -1", x.relief(-1), BEYOND);
         due("n 10000", x.relief(10000), BEYOND);
         due("nobody", x.relief(0), NONE);
-        x = room("aunt taste 63 purse 95;hearer on 1 purse 0;hearer on 1 purse 3;joke 63 9;rate 20");
+        x = Rooms.room("aunt taste 63 purse 95;hearer on 1 purse 0;hearer on 1 purse 3;joke 63 9;rate 20");
         x.tell(0);
         due("raised", x.now(1), 98);
         due("purses", x.now(2), 0);
@@ -429,7 +371,7 @@ public final class PromisesTest {
         due("no more", x.relief(9), 0);
         due("shared", x.of(0, 4) * 10000 + x.of(1, 4) * 100 + x.of(2, 4), 343333);
 
-        LaughTax full = fullTreasury();
+        LaughTax full = Rooms.fullTreasury();
         for (int p = 0; p < 8; p++) {
             full.change(p, 4, 9998);
         }
@@ -441,7 +383,7 @@ public final class PromisesTest {
     // ---- what would be
 
     private static void laugh() {
-        LaughTax x = chain();
+        LaughTax x = Rooms.chain();
         due("by itself", x.laugh(0, 0), 1);
         due("all", x.laugh(0, 1), 15);
         due("nothing changes", x.now(0) + x.now(1), 0);
@@ -452,26 +394,26 @@ public final class PromisesTest {
         due("no such", x.laugh(1, 0), BEYOND);
         due("below", x.laugh(-1, 0), BEYOND);
         // BOUNDS are met at their number, and not one below
-        LaughTax y = room("hearer mood 8;hearer mood 7;child mood 5;child mood 4;aunt mood 3;aunt mood 2;joke 2 0;reach 0");
+        LaughTax y = Rooms.room("hearer mood 8;hearer mood 7;child mood 5;child mood 4;aunt mood 3;aunt mood 2;joke 2 0;reach 0");
         y.person(2, 9);
         y.change(6, 3, 4);
         y.person(2, 12);
         y.change(7, 3, 3);
         due("at the bound", y.laugh(0, 0), 1 + 4 + 16 + 64);
         // two near let hearers laugh, one doesn't; three let the straight one
-        LaughTax z = room("hearer taste 2;hearer mood 0;hearer taste 2 mood 0;straight mood 0;fool;inspector mood 0;joke 2 8");
+        LaughTax z = Rooms.room("hearer taste 2;hearer mood 0;hearer taste 2 mood 0;straight mood 0;fool;inspector mood 0;joke 2 8");
         due("two", z.laugh(0, 0), 5);
         due("then the third, then the straight one", z.laugh(0, 1), 15);
         z.change(2, 2, 1);
         due("one is not enough", z.laugh(0, 1), 1);
-        LaughTax six = room("inspector mood 0;giggler;giggler;giggler;giggler;giggler;giggler;joke 1 9");
+        LaughTax six = Rooms.room("inspector mood 0;giggler;giggler;giggler;giggler;giggler;giggler;joke 1 9");
         due("six for an inspector", six.laugh(0, 1), 127);
         six.change(6, 1, 9);
         due("five are not", six.laugh(0, 1), 126);
     }
 
     private static void rounds() {
-        LaughTax x = chain();
+        LaughTax x = Rooms.chain();
         due("one by one", x.rounds(0), 3);
         x.law(1, 4);
         due("two by two", x.rounds(0), 2);
@@ -481,25 +423,25 @@ public final class PromisesTest {
         due("none", x.rounds(0), 0);
         due("no such", x.rounds(1), BEYOND);
         due("below", x.rounds(-1), BEYOND);
-        due("nobody", room("joke 1 1").rounds(0), 0);
+        due("nobody", Rooms.room("joke 1 1").rounds(0), 0);
     }
 
     private static void raised() {
-        LaughTax x = room("hearer taste 2 mood 9;giggler on 1 mood 0 purse 1;hearer on 9 mood 0;joke 2 9;rate 10");
+        LaughTax x = Rooms.room("hearer taste 2 mood 9;giggler on 1 mood 0 purse 1;hearer on 9 mood 0;joke 2 9;rate 10");
         due("with purses", x.raised(0), 19);
         due("nothing changes", x.now(1) * 1000 + x.now(2), 201);
         due("nothing is told", x.now(0), 0);
         due("moods", x.now(3), 9);
         due("no such", x.raised(1), BEYOND);
         due("below", x.raised(-1), BEYOND);
-        LaughTax full = fullTreasury();
+        LaughTax full = Rooms.fullTreasury();
         full.relief(5);
         due("what the treasury can take", full.raised(0), 5);
-        due("nobody", room("joke 1 1").raised(0), 0);
+        due("nobody", Rooms.room("joke 1 1").raised(0), 0);
     }
 
     private static void ahead() {
-        LaughTax x = room("hearer taste 2 mood 9;giggler on 1 mood 0;joke 2 1;rate 10");
+        LaughTax x = Rooms.room("hearer taste 2 mood 9;giggler on 1 mood 0;joke 2 1;rate 10");
         int[] at = new int[61];
         for (int n = 0; n <= 60; n++) {
             at[n] = x.ahead(0, n);
@@ -517,25 +459,25 @@ public final class PromisesTest {
 
     /** Who LAUGHS by itself does so ever after (its MOOD grows, its BOUND doesn't): 0 or NONE. */
     private static void stale() {
-        LaughTax x = room("hearer taste 0 mood 8;joke 1 1");
+        LaughTax x = Rooms.room("hearer taste 0 mood 8;joke 1 1");
         due("a merry one laughs on", x.stale(0), NONE);
         due("nothing changes", x.now(0) * 100 + x.of(0, 3), 8);
         x.change(0, 3, 7);
         due("nobody laughs now", x.stale(0), 0);
-        due("nobody there", room("joke 1 1").stale(0), 0);
+        due("nobody there", Rooms.room("joke 1 1").stale(0), 0);
         due("no such", x.stale(1), BEYOND);
         due("below", x.stale(-1), BEYOND);
     }
 
     private static void broke() {
-        LaughTax x = room("hearer taste 2 mood 9;giggler on 1 mood 0 purse 1;hearer on 9 purse 0;hearer on 12;joke 2 9;rate 10");
+        LaughTax x = Rooms.room("hearer taste 2 mood 9;giggler on 1 mood 0 purse 1;hearer on 9 purse 0;hearer on 12;joke 2 9;rate 10");
         due("18 each time of 100", x.broke(0, 0), 6);
         due("at the first", x.broke(0, 1), 1);
         due("already", x.broke(0, 2), 0);
         due("never", x.broke(0, 3), NONE);
         due("nothing changes", x.now(2), 201);
         // one unit each time: 60 times are looked at, and not a 61st
-        LaughTax y = room("inspector taste 63 mood 9 purse 60;hearer taste 0 mood 0;joke 63 9;rate 10");
+        LaughTax y = Rooms.room("inspector taste 63 mood 9 purse 60;hearer taste 0 mood 0;joke 63 9;rate 10");
         due("behind 60", y.broke(0, 0), 60);
         y.change(0, 4, 61);
         due("behind 61", y.broke(0, 0), NONE);
@@ -548,7 +490,7 @@ public final class PromisesTest {
     // ---- catching
 
     private static void caught() {
-        LaughTax x = chain();
+        LaughTax x = Rooms.chain();
         due("from the first", x.caught(1), 15);
         due("from nobody", x.caught(0), 0);
         due("from all", x.caught(15), 15);
@@ -570,19 +512,19 @@ public final class PromisesTest {
 
     private static void starter() {
         due("nobody", new LaughTax().starter(), NONE);
-        LaughTax x = chain();
+        LaughTax x = Rooms.chain();
         due("of several the least", x.starter(), 0);
         x.change(2, 0, 0);
         // 0 and 1 reach each other; 2 reaches 1 and 3, so 0 too; 3 alone reaches nobody
         due("most", x.starter(), 2);
         x.change(2, 0, 4);
         due("a fool, too", x.starter(), 2);
-        due("one alone", room("fool").starter(), 0);
+        due("one alone", Rooms.room("fool").starter(), 0);
     }
 
     private static void fewest() {
         due("nobody", new LaughTax().fewest(), 0);
-        LaughTax x = chain();
+        LaughTax x = Rooms.chain();
         due("one", x.fewest(), 1);
         x.change(2, 0, 0);
         due("the one between", x.fewest(), 4);
@@ -591,12 +533,12 @@ public final class PromisesTest {
         x.law(1, 0);
         due("all", x.fewest(), 15);
         // two of four hearers on a seat: of several the least
-        LaughTax y = room("hearer;hearer;hearer;hearer");
+        LaughTax y = Rooms.room("hearer;hearer;hearer;hearer");
         due("the least two", y.fewest(), 3);
     }
 
     private static void away() {
-        LaughTax x = chain();
+        LaughTax x = Rooms.chain();
         due("none of them", x.away(0, 4), 0);
         due("8", x.away(0, 8), 0);
         due("three", x.away(0, 3), 1);
@@ -610,11 +552,11 @@ public final class PromisesTest {
         due("k 9", x.away(0, 9), BEYOND);
         due("no such", x.away(1, 0), BEYOND);
         due("below", x.away(-1, 0), BEYOND);
-        due("nobody there", room("joke 1 1").away(0, 0), 0);
+        due("nobody there", Rooms.room("joke 1 1").away(0, 0), 0);
     }
 
     private static void seatFor() {
-        LaughTax x = chain();
+        LaughTax x = Rooms.chain();
         // with the first on 0 all laugh; from 9 on it is alone
         due("where it begins nothing", x.seatFor(0, 0), 9);
         // without 1 between, on 0 the others are out of reach, too; 1 itself laughs unless it is beyond 2
@@ -622,9 +564,9 @@ public final class PromisesTest {
         due("a last one", x.seatFor(3, 0), 7);
         due("nothing changes", x.of(0, 1) * 100 + x.of(1, 1) * 10 + x.of(3, 1), 26);
         due("near as it was", x.of(0, 7), 1);
-        due("least of several", room("fool on 5;joke 1 1").seatFor(0, 0), 0);
-        due("the last seat", room("giggler taste 2 mood 0;giggler mood 0;joke 2 9;reach 14").seatFor(0, 0), 15);
-        LaughTax eight = aunts();
+        due("least of several", Rooms.room("fool on 5;joke 1 1").seatFor(0, 0), 0);
+        due("the last seat", Rooms.room("giggler taste 2 mood 0;giggler mood 0;joke 2 9;reach 14").seatFor(0, 0), 15);
+        LaughTax eight = Rooms.aunts();
         for (int p = 0; p < 8; p++) {
             eight.change(p, 1, 0);
         }
@@ -638,7 +580,7 @@ public final class PromisesTest {
     }
 
     private static void kindFor() {
-        LaughTax x = chain();
+        LaughTax x = Rooms.chain();
         // 0 laughs as any but a fool
         due("least of several", x.kindFor(0, 0), 0);
         // 1 catches it from one as a giggler
@@ -647,7 +589,7 @@ public final class PromisesTest {
         // with mood 5 a child laughs by itself, a giggler does already
         due("still the giggler", x.kindFor(1, 0), 2);
         due("nothing changes", x.of(1, 0), 2);
-        LaughTax y = room("giggler mood 3;joke 2 0");
+        LaughTax y = Rooms.room("giggler mood 3;joke 2 0");
         due("only an aunt laughs at 3", y.kindFor(0, 0), 3);
         y.change(0, 3, 2);
         due("none does", y.kindFor(0, 0), 0);
@@ -658,7 +600,7 @@ public final class PromisesTest {
     }
 
     private static void reachFor() {
-        LaughTax x = chain();
+        LaughTax x = Rooms.chain();
         x.law(1, 0);
         due("least", x.reachFor(0), 2);
         due("nothing changes", x.now(5), 0);
@@ -670,7 +612,7 @@ public final class PromisesTest {
         due("all the row", x.reachFor(0), 15);
         x.change(3, 0, 4);
         due("with none", x.reachFor(0), NONE);
-        due("nobody there", room("joke 1 1").reachFor(0), 0);
+        due("nobody there", Rooms.room("joke 1 1").reachFor(0), 0);
         due("no such", x.reachFor(1), BEYOND);
         due("below", x.reachFor(-1), BEYOND);
     }
@@ -678,14 +620,14 @@ public final class PromisesTest {
     // ---- laws
 
     private static void rateFor() {
-        LaughTax x = room("hearer taste 2 mood 9;giggler on 1 mood 0 purse 0;joke 2 9;rate 3");
+        LaughTax x = Rooms.room("hearer taste 2 mood 9;giggler on 1 mood 0 purse 0;joke 2 9;rate 3");
         // 18 seconds by 1: 1.8 a rate; 100 at most
         due("20 of them bring 36", x.rateFor(0, 1), 20);
         due("19 bring 34 three times, 20 bring 36: 100 is reached by 19", x.rateFor(0, 3), 19);
         due("5 a telling do for 20", x.rateFor(0, 20), 3);
         due("nothing changes", x.now(4), 3);
         due("nothing is paid", x.now(1), 0);
-        due("nobody pays: the least", room("joke 1 1").rateFor(0, 5), 0);
+        due("nobody pays: the least", Rooms.room("joke 1 1").rateFor(0, 5), 0);
         due("n 0", x.rateFor(0, 0), BEYOND);
         due("n 21", x.rateFor(0, 21), BEYOND);
         due("no such", x.rateFor(1, 1), BEYOND);
@@ -693,7 +635,7 @@ public final class PromisesTest {
     }
 
     private static void best() {
-        LaughTax x = room("hearer taste 4 mood 0;hearer on 4 taste 8 mood 0;hearer on 8 taste 48 mood 0;reach 0");
+        LaughTax x = Rooms.room("hearer taste 4 mood 0;hearer on 4 taste 8 mood 0;hearer on 8 taste 48 mood 0;reach 0");
         due("fun 9: one of each", x.best(9), 4 + 8 + 16);
         due("fun 8: as well", x.best(8), 28);
         due("fun 4: two topics of the last", x.best(4), 48);
@@ -702,11 +644,11 @@ public final class PromisesTest {
         due("fun 10", x.best(10), BEYOND);
         due("fun -1", x.best(-1), BEYOND);
         due("nobody", new LaughTax().best(9), 1);
-        due("only all topics do", room("hearer taste 63 mood 2").best(1), 63);
+        due("only all topics do", Rooms.room("hearer taste 63 mood 2").best(1), 63);
     }
 
     private static void quiet() {
-        LaughTax x = room("hearer taste 7 mood 0;hearer on 4 taste 3 mood 0;hearer on 8 taste 4 mood 0;hearer on 12 taste 9 mood 0;reach 0");
+        LaughTax x = Rooms.room("hearer taste 7 mood 0;hearer on 4 taste 3 mood 0;hearer on 8 taste 4 mood 0;hearer on 12 taste 9 mood 0;reach 0");
         due("fun 9: two like 2 or 4, one likes 8", x.quiet(9), 8);
         due("fun 4: two like 3, one likes 5 of 7", x.quiet(4), 5);
         due("fun 2: none", x.quiet(2), NONE);
@@ -715,12 +657,12 @@ public final class PromisesTest {
         due("fun 10", x.quiet(10), BEYOND);
         due("fun -1", x.quiet(-1), BEYOND);
         due("nobody", new LaughTax().quiet(9), NONE);
-        due("only all topics do", room("hearer taste 63 mood 2").quiet(1), 63);
-        due("all eight laugh always", aunts().quiet(0), 1);
+        due("only all topics do", Rooms.room("hearer taste 63 mood 2").quiet(1), 63);
+        due("all eight laugh always", Rooms.aunts().quiet(0), 1);
     }
 
     private static void safe() {
-        LaughTax x = room("hearer taste 6 mood 0;reach 0");
+        LaughTax x = Rooms.room("hearer taste 6 mood 0;reach 0");
         due("one topic", x.safe(3), 7);
         due("two topics", x.safe(6), 3);
         due("none of its taste", x.safe(1), 9);
@@ -736,86 +678,82 @@ public final class PromisesTest {
 
     // ---- what was paid
 
-    private static LaughTax payer() {
-        return room("hearer on 1 mood 3;fool on 2;joke 7 6;joke 8 9;rate 10");
-    }
-
     private static void tastes() {
-        LaughTax x = payer();
+        LaughTax x = Rooms.payer();
         due("sheet 4", x.tastes(4, 9, 9), BEYOND);
         due("sheet -1", x.tastes(-1, 9, 9), BEYOND);
         due("missing ahead of nobody", x.tastes(0, 9, 9), MISSING);
-        sheetOf(x, 0, 8, 9, 10);
+        Rooms.sheetOf(x, 0, 8, 9, 10);
         due("nobody", x.tastes(0, 2, 0), BEYOND);
         due("person below", x.tastes(0, -1, 0), BEYOND);
         due("no such joke", x.tastes(0, 0, 2), BEYOND);
         due("joke below", x.tastes(0, 0, -1), BEYOND);
         // one of three topics of the JOKE, the other three free
         due("pays 9, then 10", x.tastes(0, 0, 0), 24);
-        sheetOf(x, 0, 8, 9, 9);
+        Rooms.sheetOf(x, 0, 8, 9, 9);
         due("never 9 again", x.tastes(0, 0, 0), 0);
-        sheetOf(x, 0, 16, -1, 16);
+        Rooms.sheetOf(x, 0, 16, -1, 16);
         due("any, then 16", x.tastes(0, 0, 0), 24);
-        sheetOf(x, 0, 32, 0, 0, 0);
+        Rooms.sheetOf(x, 0, 32, 0, 0, 0);
         due("nothing ever", x.tastes(0, 0, 0), 8);
-        sheetOf(x, 0, 32, -1, -1, -1);
+        Rooms.sheetOf(x, 0, 32, -1, -1, -1);
         due("any", x.tastes(0, 0, 0), 64);
         x.sheet(0, 8, 0);
         due("no numbers", x.tastes(0, 0, 0), 64);
-        sheetOf(x, 0, 8, 21, 22, 23, 24, 10, 0);
+        Rooms.sheetOf(x, 0, 8, 21, 22, 23, 24, 10, 0);
         due("three topics, till the purse is out", x.tastes(0, 0, 0), 8);
         due("nothing changes", x.now(1) + x.of(0, 2), 1);
-        sheetOf(x, 1, 8, 255);
+        Rooms.sheetOf(x, 1, 8, 255);
         due("255 of 8 bits is -1", x.tastes(1, 0, 0), 64);
-        sheetOf(x, 1, 8, -2);
+        Rooms.sheetOf(x, 1, 8, -2);
         due("nobody pays -2", x.tastes(1, 0, 0), 0);
     }
 
     private static void taste() {
-        LaughTax x = payer();
+        LaughTax x = Rooms.payer();
         due("sheet 4", x.taste(4, 9, 9), BEYOND);
         due("sheet -1", x.taste(-1, 9, 9), BEYOND);
         due("missing ahead of nobody", x.taste(0, 9, 9), MISSING);
-        sheetOf(x, 0, 8, 9, 10);
+        Rooms.sheetOf(x, 0, 8, 9, 10);
         due("nobody", x.taste(0, 2, 0), BEYOND);
         due("no such joke", x.taste(0, 0, 2), BEYOND);
         due("the least with one", x.taste(0, 0, 0), 1);
         due("of the other joke", x.taste(0, 0, 1), NONE);
-        sheetOf(x, 0, 8, 15);
+        Rooms.sheetOf(x, 0, 8, 15);
         due("the least with two", x.taste(0, 0, 0), 3);
-        sheetOf(x, 0, 8, 12);
+        Rooms.sheetOf(x, 0, 8, 12);
         due("the topic 3", x.taste(0, 0, 1), 8);
-        sheetOf(x, 0, 8, 0);
+        Rooms.sheetOf(x, 0, 8, 0);
         due("none of them", x.taste(0, 0, 0), 0);
-        sheetOf(x, 0, 8, 1);
+        Rooms.sheetOf(x, 0, 8, 1);
         due("with no taste", x.taste(0, 0, 0), NONE);
         x.joke(63, 1);
-        sheetOf(x, 0, 8, 9);
+        Rooms.sheetOf(x, 0, 8, 9);
         due("with all topics only", x.taste(0, 0, 2), 63);
     }
 
     private static void which() {
-        LaughTax x = payer();
+        LaughTax x = Rooms.payer();
         due("sheet 4", x.which(4), BEYOND);
         due("sheet -1", x.which(-1), BEYOND);
         due("missing", x.which(0), MISSING);
         x.change(0, 2, 9);
         // joke 0: 9 seconds; joke 1: 12 seconds
-        sheetOf(x, 0, 8, 9);
+        Rooms.sheetOf(x, 0, 8, 9);
         due("joke 0", x.which(0), 1);
-        sheetOf(x, 0, 8, 12, 0);
+        Rooms.sheetOf(x, 0, 8, 12, 0);
         due("joke 1", x.which(0), 2);
-        sheetOf(x, 0, 8, -1, 0);
+        Rooms.sheetOf(x, 0, 8, -1, 0);
         due("any", x.which(0), 3);
-        sheetOf(x, 0, 8, 12, 1);
+        Rooms.sheetOf(x, 0, 8, 12, 1);
         due("the fool pays nothing", x.which(0), 0);
-        sheetOf(x, 0, 8, 9, 0, 77);
+        Rooms.sheetOf(x, 0, 8, 9, 0, 77);
         due("beyond people: any", x.which(0), 1);
         x.sheet(0, 8, 0);
         due("no numbers", x.which(0), 3);
         due("nothing changes", x.now(0) + x.now(1), 0);
         x.change(0, 4, 8);
-        sheetOf(x, 0, 8, 8);
+        Rooms.sheetOf(x, 0, 8, 8);
         due("what it has", x.which(0), 3);
         LaughTax none = new LaughTax();
         none.sheet(0, 8, 1);
@@ -831,10 +769,10 @@ public final class PromisesTest {
         due("n -1", x.shows(-1), BEYOND);
         due("no jokes", x.shows(1), STATE);
         due("z as it was", x.count(6), 1);
-        x = payer();
-        LaughTax y = payer();
-        read(x, "joke 3 2");
-        read(y, "joke 3 2");
+        x = Rooms.payer();
+        LaughTax y = Rooms.payer();
+        Rooms.read(x, "joke 3 2");
+        Rooms.read(y, "joke 3 2");
         x.seed(-77);
         y.seed(-77);
         int z = -77;
@@ -847,7 +785,7 @@ public final class PromisesTest {
         due("purses", x.now(2), y.now(2));
         due("moods", x.now(3), y.now(3));
         due("told", x.now(0), 20);
-        LaughTax one = room("joke 1 1");
+        LaughTax one = Rooms.room("joke 1 1");
         due("one", one.shows(1), 0);
         due("z behind one", one.count(6), 1103527590);
     }
@@ -859,7 +797,7 @@ public final class PromisesTest {
         due("what 2", x.odds(0, 2), BEYOND);
         due("what -1", x.odds(0, -1), BEYOND);
         due("no jokes", x.odds(0, 0), NONE);
-        x = room("hearer mood 0;joke 1 9;joke 2 9;joke 1 8;joke 1 7;joke 4 9;joke 8 9");
+        x = Rooms.room("hearer mood 0;joke 1 9;joke 2 9;joke 1 8;joke 1 7;joke 4 9;joke 8 9");
         due("2 of 6", x.odds(1, 0), 1);
         due("by 3", x.odds(1, 1), 3);
         due("14 times", x.odds(14, 1), 4782969);
@@ -921,12 +859,12 @@ public final class PromisesTest {
         x.feed(1, 3);
         due("3", x.wipe(), 3);
         due("empty again", x.count(5), 0);
-        due("rate", read(x, "rate 5"), 1);
+        due("rate", Rooms.read(x, "rate 5"), 1);
     }
 
     private static void fault(String text, int place) {
-        LaughTax x = room("hearer on 3;joke 5 5;rate 4;reach 5");
-        due("'" + text + "'", read(x, text), -1 - place);
+        LaughTax x = Rooms.room("hearer on 3;joke 5 5;rate 4;reach 5");
+        due("'" + text + "'", Rooms.read(x, text), -1 - place);
         due("tape behind '" + text + "'", x.count(5), 0);
         due("people behind '" + text + "'", x.count(1), 1);
         due("jokes behind '" + text + "'", x.count(2), 1);
@@ -937,7 +875,7 @@ public final class PromisesTest {
 
     private static void text() {
         LaughTax x = new LaughTax();
-        due("all parts", read(x, "  fool on015taste063mood09purse09999;aunt;joke063 09;  joke01 0 ; rate 0020;reach0"), 6);
+        due("all parts", Rooms.read(x, "  fool on015taste063mood09purse09999;aunt;joke063 09;  joke01 0 ; rate 0020;reach0"), 6);
         int[] fool = {4, 15, 63, 9, 9999};
         int[] aunt = {3, 0, 1, 3, 100};
         for (int what = 0; what < 5; what++) {
@@ -951,27 +889,27 @@ public final class PromisesTest {
         due("rate", x.now(4), 20);
         due("reach", x.now(5), 0);
         due("tape", x.count(5), 0);
-        due("kinds", read(x, "hearer;straight;giggler;child;inspector"), 5);
+        due("kinds", Rooms.read(x, "hearer;straight;giggler;child;inspector"), 5);
         int[] kinds = {4, 3, 0, 1, 2, 5, 6};
         for (int p = 0; p < 7; p++) {
             due("kind of " + p, x.of(p, 0), kinds[p]);
         }
-        due("some parts", read(x, "hearer taste 0 purse 0"), 1);
+        due("some parts", Rooms.read(x, "hearer taste 0 purse 0"), 1);
         due("taste", x.of(7, 2), 0);
         due("mood", x.of(7, 3), 3);
         due("purse", x.of(7, 4), 0);
-        due("a 9th", read(x, "rate 3;  aunt on 99"), -10);
+        due("a 9th", Rooms.read(x, "rate 3;  aunt on 99"), -10);
         due("rate is as it was", x.now(4), 20);
-        due("rate again", read(x, "rate 3;rate 7;rate 5"), 3);
+        due("rate again", Rooms.read(x, "rate 3;rate 7;rate 5"), 3);
         due("the last counts", x.now(4), 5);
-        due("rate 0", read(x, "rate 0"), 1);
+        due("rate 0", Rooms.read(x, "rate 0"), 1);
         due("rate is 0", x.now(4), 0);
-        due("near is new", room("hearer;hearer on 2;reach 1").of(0, 7), 0);
+        due("near is new", Rooms.room("hearer;hearer on 2;reach 1").of(0, 7), 0);
         LaughTax y = new LaughTax();
         y.person(2, 5);
-        due("beside one that is there", read(y, "aunt on 6"), 1);
+        due("beside one that is there", Rooms.read(y, "aunt on 6"), 1);
         due("both", y.of(0, 0) * 10 + y.of(1, 0), 23);
-        due("what the tape held is no part of it", read(y, "rate"), -5);
+        due("what the tape held is no part of it", Rooms.read(y, "rate"), -5);
         for (int i = 0; i < 30; i++) {
             y.feed(0x20202020, 4);
         }
@@ -1055,7 +993,7 @@ public final class PromisesTest {
     // ---- spots, sheets
 
     private static void hold() {
-        LaughTax x = room("hearer;aunt");
+        LaughTax x = Rooms.room("hearer;aunt");
         due("spot 0", x.hold(0, 1), 1);
         due("spot 9", x.hold(9, 0), 1);
         due("holds", x.as(0, 0), 1);
@@ -1072,7 +1010,7 @@ public final class PromisesTest {
     }
 
     private static void as() {
-        LaughTax x = room("hearer;straight;giggler;aunt;fool;child;inspector");
+        LaughTax x = Rooms.room("hearer;straight;giggler;aunt;fool;child;inspector");
         int[] kindsOf = {1, 1 + 2, 1 + 4, 1 + 4 + 8, 1 + 4 + 8 + 16, 1 + 32, 1 + 2 + 64};
         for (int p = 0; p < 7; p++) {
             x.hold(p, p);
@@ -1091,7 +1029,7 @@ public final class PromisesTest {
     }
 
     private static void sheet() {
-        LaughTax x = room("hearer;hearer");
+        LaughTax x = Rooms.room("hearer;hearer");
         due("8 bits", x.sheet(0, 8, 40), 40);
         due("16 bits", x.sheet(1, 16, 1), 1);
         due("32 bits", x.sheet(3, 32, 0), 0);
@@ -1117,7 +1055,7 @@ public final class PromisesTest {
     }
 
     private static void write() {
-        LaughTax x = room("hearer;hearer");
+        LaughTax x = Rooms.room("hearer;hearer");
         due("sheet 4", x.write(4, 0, 0), BEYOND);
         due("sheet -1", x.write(-1, 0, 0), BEYOND);
         due("missing", x.write(0, -1, 0), MISSING);
@@ -1151,13 +1089,13 @@ public final class PromisesTest {
     }
 
     private static void copy() {
-        LaughTax x = room("hearer;hearer;hearer;hearer;hearer");
+        LaughTax x = Rooms.room("hearer;hearer;hearer;hearer;hearer");
         due("sheet 4", x.copy(4, 0, 0, 0, 0), BEYOND);
         due("sheet -1", x.copy(0, 0, -1, 0, 0), BEYOND);
         due("to sheet 4", x.copy(0, 0, 4, 0, 0), BEYOND);
         due("sheet -1", x.copy(-1, 0, 0, 0, 0), BEYOND);
         due("missing", x.copy(0, -1, 1, 0, 0), MISSING);
-        sheetOf(x, 0, 8, 1, 2, 3, 4, 5);
+        Rooms.sheetOf(x, 0, 8, 1, 2, 3, 4, 5);
         due("the other is missing", x.copy(0, 0, 1, 0, 0), MISSING);
         due("the other is missing", x.copy(1, 0, 0, 0, 0), MISSING);
         x.sheet(1, 16, 5);
@@ -1187,67 +1125,67 @@ public final class PromisesTest {
     }
 
     private static void load() {
-        LaughTax x = room("hearer;hearer on 9;hearer");
+        LaughTax x = Rooms.room("hearer;hearer on 9;hearer");
         due("sheet 4", x.load(4), BEYOND);
         due("sheet -1", x.load(-1), BEYOND);
         due("missing", x.load(0), MISSING);
-        sheetOf(x, 0, 8, 3, 15, 0, 2);
+        Rooms.sheetOf(x, 0, 8, 3, 15, 0, 2);
         due("nobody for the last", x.load(0), 3);
         due("seats", x.of(0, 1) * 10000 + x.of(1, 1) * 100 + x.of(2, 1), 31500);
         due("near is new", x.of(0, 7), 0);
-        sheetOf(x, 0, 8, 1, 16, 2);
+        Rooms.sheetOf(x, 0, 8, 1, 16, 2);
         due("16 is no seat", x.load(0), 1);
         due("seats", x.of(0, 1) * 10000 + x.of(1, 1) * 100 + x.of(2, 1), 11500);
         due("near is new again", x.of(0, 7), 1);
-        sheetOf(x, 0, 8, 4);
+        Rooms.sheetOf(x, 0, 8, 4);
         due("fewer numbers than people", x.load(0), 1);
         due("the next is where it was", x.of(1, 1), 15);
-        sheetOf(x, 0, 8, -1);
+        Rooms.sheetOf(x, 0, 8, -1);
         due("-1 is no seat", x.load(0), 0);
         x.sheet(0, 8, 0);
         due("no numbers", x.load(0), 0);
     }
 
     private static void judge() {
-        LaughTax x = chain();
+        LaughTax x = Rooms.chain();
         due("sheet 4", x.judge(4), BEYOND);
         due("sheet -1", x.judge(-1), BEYOND);
         due("missing", x.judge(0), MISSING);
-        sheetOf(x, 0, 8, 0, 1, 2, 3);
+        Rooms.sheetOf(x, 0, 8, 0, 1, 2, 3);
         due("in their order", x.judge(0), 0);
         x.change(3, 2, 2);
-        sheetOf(x, 0, 8, 3, 0);
+        Rooms.sheetOf(x, 0, 8, 3, 0);
         due("both by themselves now", x.judge(0), 0);
         x.change(3, 2, 1);
         x.change(0, 2, 1);
         x.change(1, 2, 2);
-        sheetOf(x, 0, 8, 0, 1);
+        Rooms.sheetOf(x, 0, 8, 0, 1);
         due("1 by itself, 0 behind it", x.judge(0), 2);
         x.change(0, 2, 2);
         x.change(1, 2, 1);
-        sheetOf(x, 0, 8, 1, 3);
+        Rooms.sheetOf(x, 0, 8, 1, 3);
         due("not all of them", x.judge(0), 0);
-        sheetOf(x, 0, 8, 0, 2, 1);
+        Rooms.sheetOf(x, 0, 8, 0, 2, 1);
         due("1 is earlier than 2", x.judge(0), 3);
-        sheetOf(x, 0, 8, 0, 1, 1);
+        Rooms.sheetOf(x, 0, 8, 0, 1, 1);
         due("twice", x.judge(0), 3);
-        sheetOf(x, 0, 8, 4);
+        Rooms.sheetOf(x, 0, 8, 4);
         due("nobody", x.judge(0), 1);
-        sheetOf(x, 0, 8, 0, -1);
+        Rooms.sheetOf(x, 0, 8, 0, -1);
         due("below", x.judge(0), 2);
-        sheetOf(x, 0, 32, 0, LEAST);
+        Rooms.sheetOf(x, 0, 32, 0, LEAST);
         due("far below", x.judge(0), 2);
-        sheetOf(x, 0, 32, 0, 32 + 1);
+        Rooms.sheetOf(x, 0, 32, 0, 32 + 1);
         due("far above", x.judge(0), 2);
         x.change(3, 1, 15);
-        sheetOf(x, 0, 8, 0, 1, 2, 3);
+        Rooms.sheetOf(x, 0, 8, 0, 1, 2, 3);
         due("3 doesn't laugh", x.judge(0), 4);
         x.law(1, 4);
-        sheetOf(x, 0, 8, 0, 2, 1);
+        Rooms.sheetOf(x, 0, 8, 0, 2, 1);
         due("both in one round", x.judge(0), 0);
         x.sheet(0, 8, 0);
         due("no numbers", x.judge(0), 0);
-        LaughTax none = room("hearer");
+        LaughTax none = Rooms.room("hearer");
         due("missing ahead of no joke", none.judge(0), MISSING);
         none.sheet(0, 8, 0);
         due("no joke", none.judge(0), STATE);
@@ -1256,7 +1194,7 @@ public final class PromisesTest {
     // ---- images
 
     private static void image() {
-        LaughTax x = payer();
+        LaughTax x = Rooms.payer();
         due("kept", x.image(), 1);
         x.tell(0);
         due("kept anew", x.image(), 1);
@@ -1265,7 +1203,7 @@ public final class PromisesTest {
     }
 
     private static void undo() {
-        LaughTax x = payer();
+        LaughTax x = Rooms.payer();
         due("nothing kept", x.undo(), NONE);
         x.hold(3, 1);
         x.change(0, 2, 5);
@@ -1307,7 +1245,7 @@ public final class PromisesTest {
     }
 
     private static void tear() {
-        LaughTax x = payer();
+        LaughTax x = Rooms.payer();
         due("nothing", x.tear(), 0);
         x.image();
         due("something", x.tear(), 1);
@@ -1316,7 +1254,7 @@ public final class PromisesTest {
     }
 
     private static void count() {
-        LaughTax x = room("hearer taste 2 mood 9 purse 50;giggler on 1 mood 0 purse 7;joke 2 9;rate 10;joke 1 1;joke 1 1");
+        LaughTax x = Rooms.room("hearer taste 2 mood 9 purse 50;giggler on 1 mood 0 purse 7;joke 2 9;rate 10;joke 1 1;joke 1 1");
         x.tell(0);
         x.feed(0, 4);
         x.seed(-5);
