@@ -125,6 +125,10 @@ final class Edges {
         for (int people = x.count(1); people < 8; people++) {
             x.person(0, 0);
         }
+        // the numbers first, as what follows asks for what is refused, too
+        for (int s = 0; s < 4; s++) {
+            lookAtNumbers(x, s, 8, seen);
+        }
         for (int s = 0; s < 4; s++) {
             for (int t = s + 1; t < 4; t++) {
                 seen.add("bits of sheets " + s + " and " + t + ": " + x.copy(s, 0, t, 0, 0));
@@ -133,9 +137,7 @@ final class Edges {
         for (int s = 0; s < 4; s++) {
             int length = lengthOf(x, s);
             seen.add("sheet " + s + ": " + length);
-            // the first numbers, and the last one
-            lookAtNumbers(x, s, Math.min(6, length), seen);
-            if (length > 6) {
+            if (length > 8) {
                 x.copy(s, length - 1, s, 0, 1);
                 lookAtNumbers(x, s, 1, seen);
             }

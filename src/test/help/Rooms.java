@@ -69,6 +69,11 @@ final class Rooms {
         x.hold(0, 1);
         x.hold(9, 4);
         x.seed(-5);
+        return furnished(x);
+    }
+
+    /** Three SHEETS, half a TEXT, two findings. */
+    private static LaughTax furnished(LaughTax x) {
         sheetOf(x, 0, 8, 1, 2, 3, 4, 5);
         sheetOf(x, 1, 16, 7, 6);
         sheetOf(x, 2, 8, 15, 0, 3);
@@ -76,6 +81,27 @@ final class Rooms {
         x.tell(99);
         x.load(3);
         return x;
+    }
+
+    /** Something of everything but PEOPLE. */
+    static LaughTax withoutPeople() {
+        LaughTax x = room("joke 9 3;joke 63 1;rate 4");
+        x.tell(1);
+        x.image();
+        x.tell(0);
+        x.seed(-5);
+        x.law(1, 7);
+        return furnished(x);
+    }
+
+    /** Something of everything but JOKES; nobody LAUGHS without FUN. */
+    static LaughTax withoutJokes() {
+        LaughTax x = room("hearer on 3;fool on 5;hearer on 7 mood 7;reach 0");
+        x.hold(4, 1);
+        x.image();
+        x.seed(-5);
+        x.change(2, 4, 9);
+        return furnished(x);
     }
 
     /** As many of PEOPLE, JOKES and bytes of THE TAPE as there may be; the SHEETS are as long as can be. */
@@ -145,9 +171,10 @@ final class Rooms {
     /** TOLD as often as is asked for. Beyond 512 calls nothing is promised; the class keeps its word all the same. */
     static LaughTax told(int times) {
         LaughTax x = room("hearer;joke 1 1");
+        x.image();
         for (int left = times; left > 0; left -= Math.min(60, left)) {
             x.evening(0, Math.min(60, left));
         }
-        return x;
+        return furnished(x);
     }
 }

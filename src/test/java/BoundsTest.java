@@ -1,4 +1,4 @@
-/** Promises 1 to 50 at what is just allowed: the first and the last number, empty and full, and what lies between findings. */
+/** Promises 1 to 50 at what is just allowed: the first and the last number, empty and full, a wrap-around. */
 public final class BoundsTest {
     private static final int NONE = Edges.NONE;
     private static final int MISSING = Edges.MISSING;
@@ -408,6 +408,12 @@ public final class BoundsTest {
     private static void rounds() {
         edge("nobody is there", () -> due("rounds", room("joke 1 1").rounds(0), 0));
         edge("all LAUGH by themselves", () -> due("rounds", Rooms.aunts().rounds(0), 0));
+        edge("none, behind some of another JOKE", () -> {
+            LaughTax x = Rooms.chain();
+            x.joke(4, 9);
+            due("rounds", x.rounds(0), 3);
+            due("rounds of the other", x.rounds(1), 0);
+        });
         edge("one of eight starts all", () -> {
             LaughTax x = Rooms.aunts();
             for (int p = 1; p < 8; p++) {
@@ -537,7 +543,8 @@ public final class BoundsTest {
         });
         // 1 and 3 do so by themselves, 0 catches it from 1, 2 from 3: without {1, 2} or {0, 3} one is left
         edge("of several the least: 6, not 9", () -> {
-            LaughTax x = room("giggler on 2 taste 0 mood 0;hearer on 1;giggler on 5 taste 0 mood 0;hearer on 4;reach 1;joke 1 9");
+            LaughTax x = room("giggler on 2 taste 0 mood 0;hearer on 1;giggler on 5 taste 0 mood 0;hearer on 4;"
+                    + "reach 1;joke 1 9");
             due("away", x.away(0, 1), 6);
         });
     }
@@ -583,13 +590,15 @@ public final class BoundsTest {
     }
 
     private static void reachFor() {
-        edge("REACH 0, if all LAUGH by themselves", () -> due("reach", room("hearer mood 9;hearer on 15 mood 9;joke 2 0").reachFor(0), 0));
+        edge("REACH 0, if all LAUGH by themselves", () ->
+                due("reach", room("hearer mood 9;hearer on 15 mood 9;joke 2 0").reachFor(0), 0));
         edge("REACH 0, if nobody is there", () -> due("reach", room("joke 1 1").reachFor(0), 0));
         edge("REACH 0, on one SEAT", () -> due("reach", room("hearer mood 9;giggler mood 0;joke 2 0").reachFor(0), 0));
         edge("REACH 14", () -> due("reach", room("hearer mood 9;giggler on 14 mood 0;joke 2 0").reachFor(0), 14));
         edge("REACH 15", () -> due("reach", room("hearer mood 9;giggler on 15 mood 0;joke 2 0").reachFor(0), 15));
         edge("NONE", () -> due("reach", room("hearer mood 9;hearer mood 0;joke 2 0").reachFor(0), NONE));
-        edge("less than it is", () -> due("reach", room("hearer mood 9;giggler on 1 mood 0;joke 2 0;reach 9").reachFor(0), 1));
+        edge("less than it is", () ->
+                due("reach", room("hearer mood 9;giggler on 1 mood 0;joke 2 0;reach 9").reachFor(0), 1));
     }
 
     // ---- laws
@@ -768,9 +777,10 @@ public final class BoundsTest {
     }
 
     private static void odds() {
-        long[][] rows = {{7, 1, 14, 678223072849L, 4398046511104L}, {1, 7, 14, 1, 4398046511104L}, {6, 1, 14, 78364164096L, 678223072849L},
-            {7, 1, 0, 1, 1}, {0, 3, 0, 1, 1}, {0, 3, 1, 0, 1}, {0, 3, 14, 0, 1}, {3, 0, 0, 1, 1}, {3, 0, 14, 1, 1},
-            {2, 2, 1, 1, 2}, {4, 4, 14, 1, 16384}, {6, 2, 2, 9, 16}, {2, 4, 3, 1, 27}, {4, 2, 3, 8, 27}, {1, 0, 1, 1, 1}, {0, 1, 1, 0, 1}};
+        long[][] rows = {{7, 1, 14, 678223072849L, 4398046511104L}, {1, 7, 14, 1, 4398046511104L},
+            {6, 1, 14, 78364164096L, 678223072849L}, {7, 1, 0, 1, 1}, {0, 3, 0, 1, 1}, {0, 3, 1, 0, 1}, {0, 3, 14, 0, 1}, {3, 0, 0, 1, 1}, {3, 0, 14, 1, 1},
+            {2, 2, 1, 1, 2}, {4, 4, 14, 1, 16384}, {6, 2, 2, 9, 16}, {2, 4, 3, 1, 27}, {4, 2, 3, 8, 27},
+            {1, 0, 1, 1, 1}, {0, 1, 1, 0, 1}};
         for (long[] row : rows) {
             edge(row[0] + " JOKES of " + (row[0] + row[1]) + ", n " + row[2], () -> {
                 LaughTax x = jokes((int) row[0], (int) row[1]);
@@ -1168,6 +1178,21 @@ public final class BoundsTest {
         judges("one twice, farther on", 4, 0, 1, 2, 0);
         judges("an earlier one behind", 2, 1, 0);
         judges("an earlier one as the last", 4, 0, 1, 3, 2);
+        edge("the first of PEOPLE in a later round", () -> {
+            LaughTax x = room("giggler mood 0;hearer mood 9;joke 2 0");
+            Rooms.sheetOf(x, 0, 8, 0, 1);
+            due("ahead of one that is earlier", x.judge(0), 2);
+            Rooms.sheetOf(x, 0, 8, 1, 0);
+            due("behind it", x.judge(0), 0);
+        });
+        edge("one that caught it, and now does so by itself", () -> {
+            LaughTax x = room("giggler mood 0;hearer mood 9;joke 2 0");
+            Rooms.sheetOf(x, 0, 8, 1, 0);
+            due("in round 1", x.judge(0), 0);
+            x.change(0, 3, 9);
+            Rooms.sheetOf(x, 0, 8, 0, 1);
+            due("by itself", x.judge(0), 0);
+        });
         edge("eight, and one twice", () -> {
             LaughTax x = Rooms.aunts();
             Rooms.sheetOf(x, 0, 8, 7, 6, 5, 4, 3, 2, 1, 0);

@@ -111,7 +111,8 @@ public final class LooksTest {
 
     /** "nothing changes but that THE TAPE is empty; no finding" */
     private static void faults() {
-        String[] texts = {"?", "1;rate", "; rate 3;", "1;rate 3;reach 4;aunt on 9;joke 1 1;", "1;reach 4;joke 1 0;king"};
+        String[] texts = {"?", "1;rate", "; rate 3;", "1;rate 3;reach 4;aunt on 9;joke 1 1;",
+            "1;reach 4;joke 1 0;king"};
         int[] places = {6, 12, 15, 42, 25};
         for (int i = 0; i < texts.length; i++) {
             String text = texts[i];

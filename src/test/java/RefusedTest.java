@@ -25,6 +25,8 @@ public final class RefusedTest {
     private static final Supplier<LaughTax> SOME = Rooms::some;
     /** Eight PEOPLE, eight JOKES, 120 bytes, four SHEETS of 40 (3 of 32 bits, the others of 8). */
     private static final Supplier<LaughTax> FILLED = Rooms::full;
+    private static final Supplier<LaughTax> NO_PEOPLE = Rooms::withoutPeople;
+    private static final Supplier<LaughTax> NO_JOKES = Rooms::withoutJokes;
     private static final Supplier<LaughTax> TOLD_OUT = () -> Rooms.told(99999);
     private static final int[] NO_PERSON_OF_SOME = {-1, 5, 8, LEAST, MOST};
     private static final int[] NO_JOKE_OF_SOME = {-1, 3, 8, LEAST, MOST};
@@ -241,8 +243,9 @@ public final class RefusedTest {
             no("n " + n, SOME, x -> x.relief(n), BEYOND);
             no("nobody, and n " + n, EMPTY, x -> x.relief(n), BEYOND);
         }
-        no("nobody", EMPTY, x -> x.relief(0), NONE);
-        no("nobody, and n 9999", EMPTY, x -> x.relief(9999), NONE);
+        no("nobody", NO_PEOPLE, x -> x.relief(0), NONE);
+        no("nobody, and n 9999", NO_PEOPLE, x -> x.relief(9999), NONE);
+        no("nothing at all", EMPTY, x -> x.relief(1), NONE);
     }
 
     // ---- what would be
@@ -310,7 +313,8 @@ public final class RefusedTest {
     }
 
     private static void starter() {
-        no("nobody", EMPTY, LaughTax::starter, NONE);
+        no("nobody", NO_PEOPLE, LaughTax::starter, NONE);
+        no("nothing at all", EMPTY, LaughTax::starter, NONE);
     }
 
     private static void away() {
@@ -369,8 +373,8 @@ public final class RefusedTest {
         for (int fun : new int[] {-1, 10, LEAST, MOST}) {
             no("fun " + fun, SOME, x -> x.quiet(fun), BEYOND);
         }
-        no("nobody", EMPTY, x -> x.quiet(9), NONE);
-        no("nobody laughs at any", () -> Rooms.room("fool;hearer mood 7"), x -> x.quiet(0), NONE);
+        no("nobody", NO_PEOPLE, x -> x.quiet(9), NONE);
+        no("nobody laughs at any", NO_JOKES, x -> x.quiet(0), NONE);
     }
 
     private static void safe() {
@@ -425,9 +429,10 @@ public final class RefusedTest {
     private static void shows() {
         for (int n : new int[] {0, -1, 21, LEAST, MOST}) {
             no("n " + n, SOME, x -> x.shows(n), BEYOND);
-            no("no jokes, and n " + n, EMPTY, x -> x.shows(n), BEYOND);
+            no("no jokes, and n " + n, NO_JOKES, x -> x.shows(n), BEYOND);
         }
-        no("no jokes", EMPTY, x -> x.shows(1), STATE);
+        no("no jokes", NO_JOKES, x -> x.shows(1), STATE);
+        no("no jokes, and n 20", NO_JOKES, x -> x.shows(20), STATE);
         no("TOLD is 99999", TOLD_OUT, x -> x.shows(1), STATE);
         no("TOLD would be 100000", () -> Rooms.told(99980), x -> x.shows(20), STATE);
         no("TOLD is 99999, and n 21", TOLD_OUT, x -> x.shows(21), BEYOND);
@@ -436,14 +441,14 @@ public final class RefusedTest {
     private static void odds() {
         for (int n : new int[] {-1, 15, LEAST, MOST}) {
             no("n " + n, SOME, x -> x.odds(n, 0), BEYOND);
-            no("no jokes, and n " + n, EMPTY, x -> x.odds(n, 1), BEYOND);
+            no("no jokes, and n " + n, NO_JOKES, x -> x.odds(n, 1), BEYOND);
         }
         for (int what : new int[] {-1, 2, LEAST, MOST}) {
             no("what " + what, SOME, x -> x.odds(0, what), BEYOND);
-            no("no jokes, and what " + what, EMPTY, x -> x.odds(0, what), BEYOND);
+            no("no jokes, and what " + what, NO_JOKES, x -> x.odds(0, what), BEYOND);
         }
-        no("no jokes", EMPTY, x -> x.odds(0, 0), NONE);
-        no("no jokes, below the line", EMPTY, x -> x.odds(14, 1), NONE);
+        no("no jokes", NO_JOKES, x -> x.odds(0, 0), NONE);
+        no("no jokes, below the line", NO_JOKES, x -> x.odds(14, 1), NONE);
     }
 
     // ---- texts
@@ -589,7 +594,8 @@ public final class RefusedTest {
         }
         no("missing", SOME, x -> x.judge(3), MISSING);
         no("no joke, and missing", EMPTY, x -> x.judge(0), MISSING);
-        no("no joke", () -> emptySheets(8, 8), x -> x.judge(0), STATE);
+        no("no joke", NO_JOKES, x -> x.judge(0), STATE);
+        no("no joke, and no numbers", () -> emptySheets(8, 8), x -> x.judge(0), STATE);
     }
 
     // ---- images

@@ -76,10 +76,13 @@ public final class TermsTest {
             due("seat", x.of(1, 1), 15);
         });
         edge("in a row: its ends are no neighbours", () -> due("near", near(room("hearer;hearer on 15;reach 14")), 0));
-        edge("in a row: REACH 15 goes from end to end", () -> due("near", near(room("hearer;hearer on 15;reach 15")), 1));
+        edge("in a row: REACH 15 goes from end to end", () ->
+                due("near", near(room("hearer;hearer on 15;reach 15")), 1));
         edge("several may be on one", () -> due("near", near(Rooms.aunts()), 7));
-        edge("no farther than REACH, upwards", () -> due("near", near(room("hearer on 7;hearer on 9;hearer on 10")), 1));
-        edge("no farther than REACH, downwards", () -> due("near", near(room("hearer on 7;hearer on 5;hearer on 4")), 1));
+        edge("no farther than REACH, upwards", () ->
+                due("near", near(room("hearer on 7;hearer on 9;hearer on 10")), 1));
+        edge("no farther than REACH, downwards", () ->
+                due("near", near(room("hearer on 7;hearer on 5;hearer on 4")), 1));
         edge("REACH 0: just the own SEAT", () ->
                 due("near", near(room("hearer on 7;hearer on 7;hearer on 6;hearer on 8;reach 0")), 1));
         edge("itself not", () -> due("near", near(room("hearer;reach 15")), 0));
@@ -223,7 +226,8 @@ public final class TermsTest {
         int[][] strengths = {{0, 0}, {0, 1}, {0, 2}, {0, 3}, {3, 2}, {3, 3}, {3, 4}, {6, 9}};
         int[][] seconds = {
             {1, 1, 2, 3, 29, 30, 30, 30}, {1, 1, 2, 2, 15, 16, 16, 16}, {2, 2, 4, 6, 58, 60, 60, 60},
-            {7, 7, 9, 11, 63, 65, 65, 65}, {0, 0, 0, 0, 0, 0, 0, 0}, {1, 1, 2, 3, 29, 30, 30, 30}, {1, 1, 1, 1, 1, 1, 1, 1}};
+            {7, 7, 9, 11, 63, 65, 65, 65}, {0, 0, 0, 0, 0, 0, 0, 0}, {1, 1, 2, 3, 29, 30, 30, 30},
+            {1, 1, 1, 1, 1, 1, 1, 1}};
         for (int k = 0; k < 7; k++) {
             for (int i = 0; i < strengths.length; i++) {
                 int kind = k;
@@ -284,7 +288,8 @@ public final class TermsTest {
     }
 
     private static void due() {
-        int[][] rows = {{0, 7, 0}, {1, 0, 0}, {1, 1, 0}, {1, 2, 1}, {2, 1, 1}, {10, 1, 9}, {11, 1, 9}, {12, 1, 10}, {20, 7, 126}};
+        int[][] rows = {{0, 7, 0}, {1, 0, 0}, {1, 1, 0}, {1, 2, 1}, {2, 1, 1}, {10, 1, 9}, {11, 1, 9},
+            {12, 1, 10}, {20, 7, 126}};
         for (int[] row : rows) {
             edge("DUE of 9 SECONDS with RATE " + row[0] + " and " + row[1] + " NEAR", () -> {
                 LaughTax x = owing(row[0], row[1], 9999);
@@ -397,7 +402,8 @@ public final class TermsTest {
 
     /** Which of three JOKES was TOLD is seen by who LAUGHED, and so has more of MOOD. */
     private static LaughTax threeJokes(int z) {
-        LaughTax x = room("hearer mood 1;hearer on 5 taste 2 mood 1;hearer on 10 taste 4 mood 1;joke 1 9;joke 2 9;joke 4 9");
+        LaughTax x = room("hearer mood 1;hearer on 5 taste 2 mood 1;hearer on 10 taste 4 mood 1;"
+                + "joke 1 9;joke 2 9;joke 4 9");
         x.seed(z);
         return x;
     }
@@ -445,6 +451,13 @@ public final class TermsTest {
         reads("  rate   3  ;  reach  3  ", 2);
         reads("aunt on3taste3mood3purse3", 1);
         fault("auntaunt", 0);
+        fault("aunta", 0);
+        fault("auntz", 0);
+        fault("zaunt", 0);
+        fault("zate 3", 0);
+        fault("zeach 3", 0);
+        fault("zoke 1 1", 0);
+        fault("aunt zn 3", 5);
         fault("aunton 3", 0);
         fault("rate 3 3", 7);
         fault("joke 12", 7);
@@ -543,6 +556,7 @@ public final class TermsTest {
             int kind = k;
             edge("the WORD " + words[k], () -> due("kind", room(words[kind]).of(0, 0), kind));
             fault(words[k] + "s", 0);
+            fault("z" + words[k].substring(1), 0);
             fault(words[k].substring(0, words[k].length() - 1), 0);
         }
     }
