@@ -498,8 +498,8 @@ public final class LaughTax {
                 funny++;
             }
         }
-        int common = commonDivisor(funny, live.jokes);
-        return power((what == 0 ? funny : live.jokes) / common, n);
+        int part = what == 0 ? inLowestTerms(funny, live.jokes) : inLowestTerms(live.jokes, funny);
+        return power(part, n);
     }
 
     public int seed(int v) {
@@ -795,14 +795,14 @@ public final class LaughTax {
         return true;
     }
 
-    /** The greatest that divides both; b is 1 or more, so that there is one and it is 1 at least. */
-    private static int commonDivisor(int a, int b) {
-        for (int d = b; d > 1; d--) {
-            if (a % d == 0 && b % d == 0) {
-                return d;
+    /** One part of a fraction, by the greatest number that divides the other part, too. */
+    private static int inLowestTerms(int part, int other) {
+        for (int d = Math.max(part, other); d > 1; d--) {
+            if (part % d == 0 && other % d == 0) {
+                return part / d;
             }
         }
-        return 1;
+        return part;
     }
 
     private static long power(int base, int n) {
